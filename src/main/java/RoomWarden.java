@@ -431,7 +431,7 @@ public final class RoomWarden {
     private static final class Room {
         final int[] owner = new int[MOST_PAGES];
         final long[] numbers = new long[MOST_PLACES];
-        /** By the place where a piece or slot begins: its length if it is free, -1 - s if block s has it. */
+        /** Where a piece or slot begins, its length if it is free, -1 - s if block s has it; else 0. */
         final int[] piece = new int[MOST_PLACES];
         final int[] zoneKind = new int[MOST_ZONES];
         final long[] zoneBy = new long[MOST_ZONES];
@@ -533,7 +533,9 @@ public final class RoomWarden {
 
         void setNumbers(int place, int n, long v) {
             if (areThere(place, n)) {
-                Arrays.fill(numbers, place, place + n, v);
+                for (int p = place; p < place + n; p++) {
+                    numbers[p] = v;
+                }
             }
         }
 
@@ -549,9 +551,9 @@ public final class RoomWarden {
             return areThere(place, 1) ? piece[place] : 0;
         }
 
-        void setFree(int place, int length) {
+        void mark(int place, int mark) {
             if (areThere(place, 1)) {
-                piece[place] = length;
+                piece[place] = mark;
             }
         }
 
@@ -596,7 +598,7 @@ public final class RoomWarden {
 
         void vacate(int place, int length) {
             setNumbers(place, length, 0L);
-            setFree(place, length);
+            mark(place, length);
         }
 
         // Zones
@@ -623,14 +625,6 @@ public final class RoomWarden {
 
         boolean isRowZone(int zone) {
             return kindOf(zone) >= KIND_SPAN;
-        }
-
-        /** How many numbers of a block's piece are not its own: head and guard words. */
-        int aside(int zone) {
-            if (!isRowZone(zone)) {
-                return 0;
-            }
-            return kindOf(zone) == KIND_GUARD ? 3 : 1;
         }
 
         // Blocks
@@ -687,7 +681,7 @@ public final class RoomWarden {
             blockPlace[s] = place;
             blockLength[s] = pieceAt(place);
             blockSize[s] = size;
-            setFree(place, -1 - s);
+            mark(place, -1 - s);
             setWords(s, wordOf(s));
         }
 
@@ -835,7 +829,7 @@ public final class RoomWarden {
             int step = room.classOf(zone);
             int end = (k + 1) * PAGE;
             for (int p = k * PAGE + 1; p + step <= end; p += step) {
-                room.setFree(p, mark);
+                room.mark(p, mark);
             }
         }
 
@@ -883,9 +877,9 @@ public final class RoomWarden {
                 }
                 room.owner[k] = zone;
                 place = k * PAGE;
-                room.setFree(place, PAGE);
+                room.mark(place, PAGE);
             }
-            room.setFree(place, partOff(place, room.freeAt(place, zone), size));
+            room.mark(place, partOff(place, room.freeAt(place, zone), size));
             return place;
         }
 
@@ -905,7 +899,7 @@ public final class RoomWarden {
                 if (room.owner[k] == zone) {
                     joinPairs(k * PAGE);
                     if (room.pieceAt(k * PAGE) == PAGE) {
-                        room.setFree(k * PAGE, 0);
+                        room.mark(k * PAGE, 0);
                         room.owner[k] = NO_ONE;
                     }
                 }
@@ -929,7 +923,7 @@ public final class RoomWarden {
         private int partOff(int place, int length, int size) {
             int left = length;
             for (int half = length / 2; half >= 1 && half >= size; half /= 2) {
-                room.setFree(place + half, half);
+                room.mark(place + half, half);
                 left = half;
             }
             return left;
@@ -940,8 +934,8 @@ public final class RoomWarden {
             for (int half = 1; half < PAGE; half *= 2) {
                 for (int p = start; p < start + PAGE; p += 2 * half) {
                     if (room.pieceAt(p) == half && room.pieceAt(p + half) == half) {
-                        room.setFree(p, 2 * half);
-                        room.setFree(p + half, 0);
+                        room.mark(p, 2 * half);
+                        room.mark(p + half, 0);
                     }
                 }
             }
@@ -965,12 +959,12 @@ public final class RoomWarden {
             for (int p = 0; p < room.places(); p = Math.max(p + 1, room.endOf(p))) {
                 longest = Math.max(longest, room.freeAt(p, zone));
             }
-            return Math.max(NONE, Math.min(longest - room.aside(zone), MOST_ROW_SIZE));
+            return Math.max(NONE, Math.min(longest - aside(zone), MOST_ROW_SIZE));
         }
 
         @Override
         int takePiece(int zone, int size) {
-            int length = size + room.aside(zone);
+            int length = size + aside(zone);
             int place = choose(zone, length);
             if (place < 0) {
                 if (!bringPages(zone, (length + PAGE - 1) / PAGE)) {
@@ -980,8 +974,8 @@ public final class RoomWarden {
             }
             int free = room.freeAt(place, zone);
             if (free > length) {
-                room.setFree(place + length, free - length);
-                room.setFree(place, length);
+                room.mark(place + length, free - length);
+                room.mark(place, length);
             }
             return place;
         }
@@ -997,12 +991,12 @@ public final class RoomWarden {
             int end = room.blockPlace[s] + room.blockLength[s];
             int behind = freeBehind(s);
             if (behind > 0) {
-                room.setFree(end, 0);
+                room.mark(end, 0);
             }
-            room.blockLength[s] = size + room.aside(room.blockZone[s]);
+            room.blockLength[s] = size + aside(room.blockZone[s]);
             int newEnd = room.blockPlace[s] + room.blockLength[s];
             if (newEnd < end + behind) {
-                room.setFree(newEnd, end + behind - newEnd);
+                room.mark(newEnd, end + behind - newEnd);
             }
         }
 
@@ -1016,6 +1010,11 @@ public final class RoomWarden {
                 }
                 p = end;
             }
+        }
+
+        /** How many numbers of a block's piece are not its own: head and guard words. */
+        private int aside(int zone) {
+            return room.kindOf(zone) == KIND_GUARD ? 3 : 1;
         }
 
         private int choose(int zone, int length) {
@@ -1048,7 +1047,7 @@ public final class RoomWarden {
             for (int k = first; k < first + n; k++) {
                 room.owner[k] = zone;
             }
-            room.setFree(first * PAGE, n * PAGE);
+            room.mark(first * PAGE, n * PAGE);
             joinTouching(zone);
             return true;
         }
@@ -1058,17 +1057,16 @@ public final class RoomWarden {
         }
 
         private void joinTouching(int zone) {
-            int open = NONE;
+            int joined = NONE;
             for (int p = 0; p < room.places(); ) {
                 int end = Math.max(p + 1, room.endOf(p));
-                int free = room.freeAt(p, zone);
-                if (free == 0) {
-                    open = NONE;
-                } else if (open < 0) {
-                    open = p;
+                if (room.freeAt(p, zone) == 0) {
+                    joined = NONE;
+                } else if (joined < 0) {
+                    joined = p;
                 } else {
-                    room.setFree(p, 0);
-                    room.setFree(open, end - open);
+                    room.mark(p, 0);
+                    room.mark(joined, end - joined);
                 }
                 p = end;
             }
@@ -1084,9 +1082,9 @@ public final class RoomWarden {
             for (int k = first; k < beyond && k < room.pages; k++) {
                 room.owner[k] = NO_ONE;
             }
-            room.setFree(start, first * PAGE - start);
+            room.mark(start, first * PAGE - start);
             if (beyond * PAGE < end) {
-                room.setFree(beyond * PAGE, end - beyond * PAGE);
+                room.mark(beyond * PAGE, end - beyond * PAGE);
             }
         }
     }
