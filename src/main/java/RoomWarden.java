@@ -524,11 +524,13 @@ public final class RoomWarden {
         }
 
         long numberAt(int place) {
-            return areThere(place, 1) ? numbers[place] : 0L;
+            return place >= 0 && place < MOST_PLACES ? numbers[place] : 0L;
         }
 
         void setNumber(int place, long v) {
-            setNumbers(place, 1, v);
+            if (place >= 0 && place < MOST_PLACES) {
+                numbers[place] = v;
+            }
         }
 
         void setNumbers(int place, int n, long v) {
@@ -548,11 +550,11 @@ public final class RoomWarden {
         // Pieces
 
         int pieceAt(int place) {
-            return areThere(place, 1) ? piece[place] : 0;
+            return place >= 0 && place < MOST_PLACES ? piece[place] : 0;
         }
 
         void mark(int place, int mark) {
-            if (areThere(place, 1)) {
+            if (place >= 0 && place < MOST_PLACES) {
                 piece[place] = mark;
             }
         }
@@ -771,17 +773,14 @@ public final class RoomWarden {
             super(room);
         }
 
-        @Override
         int mostOf(int zone) {
             return room.classOf(zone);
         }
 
-        @Override
         int greatest(int zone) {
             return lowestFree(zone) >= 0 || room.freeRun(1) >= 0 ? room.classOf(zone) : NONE;
         }
 
-        @Override
         int takePiece(int zone, int size) {
             int slot = lowestFree(zone);
             if (slot >= 0) {
@@ -796,17 +795,14 @@ public final class RoomWarden {
             return k * PAGE + 1;
         }
 
-        @Override
         boolean fits(int s, int size) {
             return true;
         }
 
-        @Override
         void reshape(int s, int size) {
             // A block has its whole slot whatever its size is.
         }
 
-        @Override
         void tidy(int zone) {
             for (int k = 0; k < room.pages; k++) {
                 if (room.owner[k] == zone && isWhollyFree(k, zone)) {
@@ -850,12 +846,10 @@ public final class RoomWarden {
             super(room);
         }
 
-        @Override
         int mostOf(int zone) {
             return PAGE;
         }
 
-        @Override
         int greatest(int zone) {
             if (room.freeRun(1) >= 0) {
                 return PAGE;
@@ -867,7 +861,6 @@ public final class RoomWarden {
             return longest > 0 ? longest : NONE;
         }
 
-        @Override
         int takePiece(int zone, int size) {
             int place = leastFree(zone, size);
             if (place < 0) {
@@ -883,17 +876,14 @@ public final class RoomWarden {
             return place;
         }
 
-        @Override
         boolean fits(int s, int size) {
             return size <= room.blockLength[s];
         }
 
-        @Override
         void reshape(int s, int size) {
             room.blockLength[s] = partOff(room.blockPlace[s], room.blockLength[s], size);
         }
 
-        @Override
         void tidy(int zone) {
             for (int k = 0; k < room.pages; k++) {
                 if (room.owner[k] == zone) {
@@ -948,12 +938,10 @@ public final class RoomWarden {
             super(room);
         }
 
-        @Override
         int mostOf(int zone) {
             return MOST_ROW_SIZE;
         }
 
-        @Override
         int greatest(int zone) {
             int longest = PAGE * room.longestFreeRun();
             for (int p = 0; p < room.places(); p = Math.max(p + 1, room.endOf(p))) {
@@ -962,7 +950,6 @@ public final class RoomWarden {
             return Math.max(NONE, Math.min(longest - aside(zone), MOST_ROW_SIZE));
         }
 
-        @Override
         int takePiece(int zone, int size) {
             int length = size + aside(zone);
             int place = choose(zone, length);
@@ -980,13 +967,11 @@ public final class RoomWarden {
             return place;
         }
 
-        @Override
         boolean fits(int s, int size) {
             int more = size - room.blockSize[s];
             return freeBehind(s) >= more;
         }
 
-        @Override
         void reshape(int s, int size) {
             int end = room.blockPlace[s] + room.blockLength[s];
             int behind = freeBehind(s);
@@ -1000,7 +985,6 @@ public final class RoomWarden {
             }
         }
 
-        @Override
         void tidy(int zone) {
             joinTouching(zone);
             for (int p = 0; p < room.places(); ) {
