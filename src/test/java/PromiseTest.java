@@ -1,7 +1,7 @@
 /** Each promise by itself: ordinary inputs, the edges that the document names, and wrong inputs. */
 public final class PromiseTest {
-    private static final int LOW = Integer.MIN_VALUE;
-    private static final int HIGH = Integer.MAX_VALUE;
+    private static final int LOW = Due.LOW;
+    private static final int HIGH = Due.HIGH;
     private static final Due DUE = new Due();
 
     private static void due(String call, long got, long want) {
@@ -9,42 +9,19 @@ public final class PromiseTest {
     }
 
     private static RoomWarden opened(int pages) {
-        RoomWarden x = new RoomWarden();
-        x.open(pages);
-        return x;
+        return Due.opened(pages);
     }
 
-    /** An object with a zone 0 of a kind. */
     private static RoomWarden with(int pages, int kind, long by) {
-        RoomWarden x = opened(pages);
-        x.zone(kind, by);
-        return x;
-    }
-
-    /** The map in one text: each entry's kind, then its length. */
-    private static String mapOf(RoomWarden x) {
-        StringBuilder text = new StringBuilder();
-        int at = 0;
-        for (int i = 0; i < x.count(4); i++) {
-            due("map(" + i + ", 0) behind the one ahead of it", x.map(i, 0), at);
-            at += x.map(i, 1);
-            text.append(i == 0 ? "" : " ").append(x.map(i, 2)).append(':').append(x.map(i, 1));
-        }
-        due("the end of the map", at, 64L * x.count(0));
-        return text.toString();
+        return Due.with(pages, kind, by);
     }
 
     private static void dueMap(RoomWarden x, String want) {
-        String got = mapOf(x);
-        if (!got.equals(want)) {
-            System.out.println("map: " + got + "\n due: " + want);
-        }
-        due("the map", got.equals(want) ? 1 : 0, 1);
+        DUE.map(x, want);
     }
 
     private static void dueNumber(RoomWarden x, int handle, int i, long want) {
-        due("read(" + handle + ", " + i + ")", x.read(handle, i), 0);
-        due("value() of number " + i, x.value(), want);
+        DUE.number(x, handle, i, want);
     }
 
     private static void newObject() {
