@@ -814,6 +814,14 @@ public final class BoundaryPromisesTest {
                 due("told(0, " + what + ")", y.told(0, what), 0);
             }
         }
+        sentence("Promise 18: 2 its blocks");
+        RoomWarden z = with(2, 1, 0);
+        z.zone(4, 0);
+        for (int s = 0; s < 100; s++) {
+            z.want(s % 25 == 0 ? 0 : s % 2, 0);
+        }
+        due("told(0, 2)", z.told(0, 2), 52);
+        due("told(1, 2)", z.told(1, 2), 48);
         sentence("Promise 18: 3 how many free slots or pieces it has (pieces of a head alone, too)");
         x.want(0, 62);
         due("told(0, 3)", x.told(0, 3), 1);
@@ -984,6 +992,34 @@ public final class BoundaryPromisesTest {
         }
     }
 
+    private static void backToOtherZones() {
+        for (int kind = 0; kind < 6; kind++) {
+            for (int other = 0; other < 6; other++) {
+                sentence("Promise 22: All is as it was kept, kind " + kind + " in place of " + other);
+                RoomWarden x = with(2, kind, 9);
+                x.want(0, 9);
+                x.want(0, 8);
+                x.fill(1, 5);
+                int place = x.block(1, 2);
+                x.save();
+                x.open(1);
+                x.zone(other, 7);
+                x.want(0, 6);
+                due("back()", x.back(), 1);
+                due("told(0, 0)", x.told(0, 0), kind);
+                due("told(0, 2)", x.told(0, 2), 2);
+                due("block(1, 2)", x.block(1, 2), place);
+                due("block(1, 3)", x.block(1, 3), 0);
+                DUE.number(x, 1, 7, 5);
+                due("want(0, 9)", x.want(0, 9), 2);
+                due("give(1)", x.give(1), 8);
+                due("give(0)", x.give(0), 9);
+                due("give(2)", x.give(2), 9);
+                due("count(1)", x.count(1), 2);
+            }
+        }
+    }
+
     private static void holdFindings() {
         sentence("Promise 23: BEYOND: k, then code");
         RoomWarden x = new RoomWarden();
@@ -1083,6 +1119,7 @@ public final class BoundaryPromisesTest {
         saveButTheValue();
         backFindings();
         backStays();
+        backToOtherZones();
         holdFindings();
         throwItFindings();
         foundFindings();

@@ -508,6 +508,98 @@ public final class BoundaryTermsTest {
         DUE.map(x, "0:64 0:64");
     }
 
+    private static void slabPageBesideAFullOneGoes() {
+        for (int c = 1; c <= 32; c++) {
+            sentence("Terms 3: a SLAB's page goes, whatever the page beside it has, class " + c);
+            int slots = 63 / c;
+            RoomWarden x = with(2, 0, c);
+            for (int s = 0; s < Math.min(100, 2 * slots); s++) {
+                x.want(0, c);
+            }
+            for (int s = 0; s < slots; s++) {
+                due("give(" + s + ")", x.give(s), c);
+                due("count(1)", x.count(1), s == slots - 1 ? 1 : 0);
+            }
+            due("peek(0)", x.peek(0), 0);
+            due("peek(64)", x.peek(64), 2);
+        }
+    }
+
+    private static void slabPageOfOneBlockStays() {
+        for (int c = 1; c <= 32; c++) {
+            sentence("Terms 3: a SLAB's page with one block in its first or its last slot stays, class " + c);
+            int slots = 63 / c;
+            for (int left = 0; left < slots; left += Math.max(1, slots - 1)) {
+                RoomWarden x = with(1, 0, c);
+                for (int s = 0; s < slots; s++) {
+                    x.want(0, c);
+                }
+                for (int s = 0; s < slots; s++) {
+                    due("give(" + s + ")", s == left ? c : x.give(s), c);
+                }
+                due("told(0, 1)", x.told(0, 1), 1);
+                due("told(0, 2)", x.told(0, 2), 1);
+                due("told(0, 3)", x.told(0, 3), slots - 1);
+                due("block(" + left + ", 2)", x.block(left, 2), 1 + left * c);
+                due("give(" + left + ")", x.give(left), c);
+                due("told(0, 1)", x.told(0, 1), 0);
+                due("count(1)", x.count(1), 1);
+            }
+        }
+    }
+
+    /** Where blocks and pieces of one zone began must not show as the page comes to a SLAB, waste and all. */
+    private static void freePagesAreAsNew() {
+        for (int kind = 0; kind < 6; kind++) {
+            sentence("Terms 3: is FREE again, and comes to another zone as any other, kind " + kind);
+            for (int anew = 0; anew < 2; anew++) {
+                RoomWarden x = with(1, kind, 1);
+                int given = 0;
+                while (given < 64 && x.want(0, kind == 5 ? 0 : 1) >= 0) {
+                    given++;
+                }
+                for (int s = 0; s < given && anew == 0; s++) {
+                    x.give(s);
+                }
+                int zone = 1;
+                if (anew == 1) {
+                    due("open(1)", x.open(1), 1);
+                    zone = 0;
+                }
+                DUE.map(x, "0:64");
+                due("zone(0, 32)", x.zone(0, 32), zone);
+                due("want of a SLAB", x.want(zone, 32) % 100, 0);
+                DUE.map(x, "2:1 3:32 5:31");
+                due("told(.., 3)", x.told(zone, 3), 0);
+            }
+        }
+    }
+
+    private static void lastPlaceOfAll() {
+        for (int kind = 0; kind < 6; kind++) {
+            sentence("Terms 1: the last place of 40 pages, kind " + kind);
+            RoomWarden x = with(40, kind, 21);
+            for (int k = 0; k < 39; k++) {
+                x.page(k, false);
+            }
+            int size = x.largest(0);
+            int h = x.want(0, size);
+            for (int s = 1; s < 3 && kind == 0; s++) {
+                h = x.want(0, size);
+            }
+            due("fill", x.fill(h, 6), size);
+            DUE.at(x, 2559, kind == 5 ? 6 : 3, kind == 5 ? 21 : 6);
+            DUE.number(x, h, size - 1, 6);
+            due("copy of its last number", x.copy(h, size - 1, h, 0, 1), 1);
+            due("grow of one more", x.grow(h, size + 1), kind < 2 ? -1 : -6);
+            due("shrink by one", x.shrink(h, size - 1), 1);
+            due("peek(2559)", x.peek(2559), kind < 2 ? 3 : 2);
+            due("grow by one", x.grow(h, size), 1);
+            DUE.number(x, h, size - 1, 0);
+            due("give", x.give(h), size);
+        }
+    }
+
     private static void wholePageGoes() {
         sentence("Terms 3: each page that lies wholly in one free piece is FREE again");
         for (int kind = 2; kind < 5; kind++) {
@@ -646,6 +738,10 @@ public final class BoundaryTermsTest {
         guardTakesTheLowest();
         guardWords();
         slabPagesGo();
+        slabPageBesideAFullOneGoes();
+        slabPageOfOneBlockStays();
+        freePagesAreAsNew();
+        lastPlaceOfAll();
         wholePageGoes();
         whatIsLeftAhead();
         whatIsLeftBehind();

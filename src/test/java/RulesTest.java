@@ -20,7 +20,8 @@ public final class RulesTest {
         "int back()", "int hold(int,int)", "int throwIt(int)", "int found(int)"};
     private static final String[] BARRED = {
         "\\bthrow\\b", "\\btry\\b", "\\bcatch\\b", "\\bsynchronized\\b", "\\bassert\\b", "->", "::", "Exact\\b",
-        "\\bprotected\\b", "\\bThread\\b", "\\bRandom\\b", "currentTimeMillis", "nanoTime", "\\bObject\\b"};
+        "\\bstatic\\s*\\{", "[^\\x00-\\xff]", "\\bprotected\\b", "\\bThread\\b", "\\bRandom\\b",
+        "currentTimeMillis", "nanoTime", "\\bObject\\b"};
 
     private static int wrong = 0;
 
