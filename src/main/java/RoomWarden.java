@@ -822,7 +822,7 @@ public final class RoomWarden {
         }
 
         private void markSlots(int k, int zone, int mark) {
-            int step = room.classOf(zone);
+            int step = Math.max(1, room.classOf(zone));
             int end = (k + 1) * PAGE;
             for (int p = k * PAGE + 1; p + step <= end; p += step) {
                 room.mark(p, mark);
@@ -830,7 +830,7 @@ public final class RoomWarden {
         }
 
         private boolean isWhollyFree(int k, int zone) {
-            int step = room.classOf(zone);
+            int step = Math.max(1, room.classOf(zone));
             int end = (k + 1) * PAGE;
             for (int p = k * PAGE + 1; p + step <= end; p += step) {
                 if (room.blockAt(p) >= 0) {

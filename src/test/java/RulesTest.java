@@ -91,6 +91,38 @@ public final class RulesTest {
             }
         }
         check("no package line", !code.startsWith("package"));
+        checkWhatIsMade(code);
+        checkLengths(code);
+    }
+
+    /** Rule 12: rows are made as an object is made, and once more at its first save(). */
+    private static void checkWhatIsMade(String code) {
+        Pattern ofAnObject = Pattern.compile(
+                " *final (int|long)\\[] \\w+ = new .*;| *(room|chart|slabs|buddies|rows|answered) = new .*;");
+        int later = 0;
+        for (String line : code.split("\n")) {
+            if (line.matches(".*\\bnew\\b.*") && !ofAnObject.matcher(line).matches()) {
+                later++;
+                check("made by save() alone: " + line, line.trim().equals("kept = new Room();"));
+            }
+        }
+        check("one line makes something later", later == 1);
+    }
+
+    /** Rule 11: a method begins with a line that ends in ") {" and ends with a brace as far in. */
+    private static void checkLengths(String code) {
+        String[] lines = code.split("\n");
+        int methods = 0;
+        for (int i = 0; i < lines.length; i++) {
+            if (!lines[i].matches(" {4}( {4})?[a-zA-Z][^=]*\\) \\{")) continue;
+            if (lines[i].matches(" *(if|for|while|switch)\\b.*")) continue;
+            String end = lines[i].replaceAll("\\S.*", "}");
+            int last = i;
+            while (last < lines.length && !lines[last].equals(end)) last++;
+            methods++;
+            check(lines[i].trim() + " has at most sixty lines", last - i < 60);
+        }
+        check("the methods are seen: " + methods, methods > FACE.length);
     }
 
     public static void main(String[] args) throws Exception {
